@@ -1352,7 +1352,7 @@ public final class FieldStones {
                     return;
                 } else {
                     begun++;
-                    at = kinds[at] == AGAIN ? beginLoop(at) : passStep(isDone(ground, world, kinds[at], numbers[at]), at);
+                    at = kinds[at] == AGAIN ? beginLoop(at) : passStep(carryOutStep(ground, world, at), at);
                 }
             }
         }
@@ -1377,8 +1377,10 @@ public final class FieldStones {
             return timesLeft[again] > 0 ? again + 1 : at + 1;
         }
 
-        private static boolean isDone(Ground ground, World world, int kind, int cell) {
-            switch (kind) {
+        /** Whether the step was done; a refused one has changed nothing. */
+        private boolean carryOutStep(Ground ground, World world, int at) {
+            int cell = numbers[at];
+            switch (kinds[at]) {
                 case TO:
                     return world.driveTo(ground, cell);
                 case LIFT:
@@ -1547,9 +1549,7 @@ public final class FieldStones {
     /** The best plans: stops, way, heaps, line, first, mix. Each leaves its answers by the face's "what". */
     private static final class Advice {
         static final int FIRST_MINUTES = 999;
-        private static final int ROW_SETS = 1 << ROWS;
-        private static final int ENDS = 2 * ROWS;
-        private static final int LEFT_END = 0;
+        private static final int FROM_RIGHT = 6;
         private static final int MOST_LADS = 6;
         private static final int MOST_HORSES = 3;
         private static final int HORSE_HANDS = 3;
@@ -1559,8 +1559,6 @@ public final class FieldStones {
 
         private final long[] answers = new long[3];
         private final int[] stonesAt = new int[ROW_LENGTH];
-        /** The fewest minutes yet to go, by the rows left (as bits) and the end at which the sledge stands. */
-        private final int[] rest = new int[ROW_SETS * ENDS];
         /** By minutes spent: the most soil (NONE: these minutes can't be spent), and its least cells. */
         private final int[] mostSoil = new int[FIRST_MINUTES + 1];
         private final long[] leastBits = new long[FIRST_MINUTES + 1];
@@ -1624,15 +1622,27 @@ public final class FieldStones {
             return least;
         }
 
+        /**
+         * Downward, each row from the end at which the last one ended: no way over these rows has less than their
+         * cells and the cells down to the lowest one, and only this way has no more. In a field of one column both
+         * ends are one, and the left one comes first.
+         */
         void planWay(Ground ground, World world) {
             int rows = rowsAsked(world);
-            for (int rowsLeft = 0; rowsLeft < ROW_SETS; rowsLeft++) {
-                for (int end = 0; end < ENDS && (rowsLeft & ~rows) == 0; end++) {
-                    rest[rowsLeft * ENDS + end] = fewestMinutes(ground, rowsLeft, end);
+            int across = ground.width - 1;
+            int cells = 0;
+            long digits = 0;
+            int lowest = 0;
+            boolean isAtRight = false;
+            for (int y = 0; y < ROWS; y++) {
+                if ((rows >> y & 1) != 0) {
+                    lowest = y;
+                    cells += across;
+                    digits = digits * 10 + y + (isAtRight ? FROM_RIGHT : 0);
+                    isAtRight = !isAtRight && across > 0;
                 }
             }
-            // Cell 0 0 is the left end of row 0, from where all rows are left.
-            settle(restOf(rows, LEFT_END), wayDigits(ground, rows), 0);
+            settle(ground.sledgeMinutes * (cells + lowest), digits, 0);
         }
 
         private static int rowsAsked(World world) {
@@ -1643,72 +1653,29 @@ public final class FieldStones {
             return rows;
         }
 
-        private int restOf(int rowsLeft, int end) {
-            int at = rowsLeft * ENDS + end;
-            return at >= 0 && at < rest.length ? rest[at] : 0;
-        }
-
-        private int fewestMinutes(Ground ground, int rowsLeft, int end) {
-            int fewest = NONE;
-            for (int begin = 0; begin < ENDS; begin++) {
-                if (isLeft(rowsLeft, begin)) {
-                    int minutes = minutesFrom(ground, rowsLeft, end, begin);
-                    fewest = fewest == NONE ? minutes : Math.min(fewest, minutes);
-                }
-            }
-            return fewest == NONE ? 0 : fewest;
-        }
-
-        private static boolean isLeft(int rowsLeft, int begin) {
-            return (rowsLeft >> (begin / 2) & 1) != 0;
-        }
-
-        /** From an end (2 for each row, the left one first) over the row that begins there, and over the rest. */
-        private int minutesFrom(Ground ground, int rowsLeft, int end, int begin) {
-            int across = ground.width - 1;
-            int sideways = end % 2 == begin % 2 ? 0 : across;
-            int cells = sideways + Math.abs(end / 2 - begin / 2) + across;
-            return ground.sledgeMinutes * cells + restOf(rowsLeft & ~(1 << (begin / 2)), begin ^ 1);
-        }
-
-        private long wayDigits(Ground ground, int rows) {
-            long digits = 0;
-            int rowsLeft = rows;
-            int end = LEFT_END;
-            for (int i = 0; i < ROWS && rowsLeft != 0; i++) {
-                int begin = firstBegin(ground, rowsLeft, end);
-                digits = digits * 10 + begin / 2 + (begin % 2 == LEFT_END ? 0 : 6);
-                rowsLeft &= ~(1 << (begin / 2));
-                end = begin ^ 1;
-            }
-            return digits;
-        }
-
-        private int firstBegin(Ground ground, int rowsLeft, int end) {
-            for (int begin = 0; begin < ENDS; begin++) {
-                if (isLeft(rowsLeft, begin) && minutesFrom(ground, rowsLeft, end, begin) == restOf(rowsLeft, end)) {
-                    return begin;
-                }
-            }
-            return LEFT_END;
-        }
-
         void planHeaps(Ground ground, World world, int years) {
             measureCarries(world);
             settle(ground.sledgeMinutes * carriedBy(WALL, WALL), 0, 0);
-            for (int one = 0; one < CELLS; one++) {
-                if (isHeapable(ground, world, one)) {
-                    int cost = ground.sledgeMinutes * carriedBy(one, one) + years * ground.soilOf(one);
-                    tryHeaps(cost, one + 1);
+            // Each pair comes behind all single heaps, so that of alike costs the fewest heaps stay.
+            for (int cell = 0; cell < CELLS; cell++) {
+                if (isHeapable(ground, world, cell)) {
+                    int cost = ground.sledgeMinutes * carriedBy(cell, cell) + years * ground.soilOf(cell);
+                    tryHeaps(cost, cell + 1);
                 }
             }
-            for (int one = 0; one < CELLS; one++) {
-                for (int two = one + 1; two < CELLS && isHeapable(ground, world, one); two++) {
-                    if (isHeapable(ground, world, two)) {
-                        int soil = ground.soilOf(one) + ground.soilOf(two);
-                        int cost = ground.sledgeMinutes * carriedBy(one, two) + years * soil;
-                        tryHeaps(cost, (one + 1) * HEAP_BASE + two + 1);
-                    }
+            for (int cell = 0; cell < CELLS; cell++) {
+                if (isHeapable(ground, world, cell)) {
+                    tryPairs(ground, world, years, cell);
+                }
+            }
+        }
+
+        private void tryPairs(Ground ground, World world, int years, int one) {
+            for (int two = one + 1; two < CELLS; two++) {
+                if (isHeapable(ground, world, two)) {
+                    int soil = ground.soilOf(one) + ground.soilOf(two);
+                    int cost = ground.sledgeMinutes * carriedBy(one, two) + years * soil;
+                    tryHeaps(cost, (one + 1) * HEAP_BASE + two + 1);
                 }
             }
         }

@@ -1,0 +1,214 @@
+/** Promises 8 and 33 to 36: undone work, images, refusals and counts. */
+public final class PastTest {
+    private static final Check CHECK = new Check();
+
+    public static void main(String[] args) {
+        undo();
+        images();
+        imagesKeepWorks();
+        imagesStack();
+        whatNoImageKeeps();
+        status();
+        counts();
+        CHECK.end();
+    }
+
+    private static String tale(FieldStones x) {
+        StringBuilder text = new StringBuilder();
+        for (int what = 2; what < 8; what++) {
+            text.append(x.told(what)).append(' ');
+        }
+        for (int what = 0; what < 4; what++) {
+            text.append(x.sums(what)).append(' ');
+        }
+        for (int what = 0; what < 3; what++) {
+            text.append(x.sledge(what)).append(' ');
+        }
+        for (int stone = 0; stone < x.told(2); stone++) {
+            for (int what = 0; what < 5; what++) {
+                text.append(x.stone(stone, what)).append(' ');
+            }
+        }
+        for (int cell = 0; cell < 24; cell++) {
+            for (int what = 0; what < 5; what++) {
+                text.append(x.cell(cell % 6, cell / 6, what)).append(' ');
+            }
+        }
+        return text.toString();
+    }
+
+    private static FieldStones worked() {
+        FieldStones x = Check.field("stone 0 0 4;stone 1 0 9;stone 5 3 2;");
+        Check.law(x, 1, "x / 5 + y / 3");
+        return x;
+    }
+
+    private static final String[] WORKS = {"lift 0 0;", "to 1 0;heap;", "winter;", "round 5 3;bar;", "", "lift 9", "to 5 3;"
+        + "lift 5 3;lift 5 3;wall;", "again 3 [winter;];"};
+
+    private static void undo() {
+        FieldStones x = worked();
+        CHECK.is("8: there is none", -1, x.undo());
+        String[] before = new String[WORKS.length];
+        int works = 0;
+        for (String work : WORKS) {
+            before[works] = tale(x);
+            works += Check.work(x, work) >= 0 ? 1 : 0;
+            CHECK.is("36: works", works, x.count(2));
+        }
+        CHECK.is("8: one had a fault", WORKS.length - 1, works);
+        for (int i = works - 1; i >= 0; i--) {
+            CHECK.is("8: how many are left", i, x.undo());
+            CHECK.isTrue("8: as it was ahead of work " + i, before[i].equals(tale(x)));
+            CHECK.is("9: refused", 0, x.told(9));
+        }
+        Check.work(x, "bar;bar;");
+        CHECK.is("9: two refused", 2, x.told(9));
+        x.undo();
+        CHECK.is("9: undone", 0, x.told(9));
+        Check.work(x, "");
+        CHECK.is("8: of no steps, too", 0, x.undo());
+        Check.work(x, "bar;");
+        x.undo();
+        Check.work(x, "winter");
+        CHECK.is("8: there is none", -1, x.undo());
+        Check.work(x, "bar;");
+        Check.field(x, "x");
+        CHECK.is("8: a field with a fault keeps it", 0, x.undo());
+        Check.work(x, "bar;");
+        x.undo();
+        CHECK.is("8: -1 leaves the refused", 0, x.told(9));
+    }
+
+    private static void images() {
+        FieldStones x = worked();
+        CHECK.is("34: there is none", -1, x.restore());
+        Check.work(x, "lift 0 0;winter;bar;bar;");
+        String then = tale(x);
+        CHECK.is("33: one", 1, x.image());
+        CHECK.is("9: an image leaves the refused", 2, x.told(9));
+        Check.work(x, "wall;winter;round 0 0;to 1 1;bar;");
+        CHECK.isTrue("5: changed", !then.equals(tale(x)));
+        CHECK.is("34: none is left", 0, x.restore());
+        CHECK.isTrue("34: all as then", then.equals(tale(x)));
+        CHECK.is("9: refused", 0, x.told(9));
+        Check.work(x, "bar;");
+        CHECK.is("34: it is gone", -1, x.restore());
+        CHECK.is("9: -1 leaves the refused", 1, x.told(9));
+        x.image();
+        Check.field(x, "stone 0 0 1;");
+        CHECK.is("3: a field takes the images", -1, x.restore());
+    }
+
+    private static void imagesKeepWorks() {
+        FieldStones x = worked();
+        String first = tale(x);
+        Check.work(x, "winter;");
+        String second = tale(x);
+        Check.work(x, "lift 0 0;");
+        x.image();
+        x.undo();
+        x.undo();
+        CHECK.isTrue("8: as at first", first.equals(tale(x)));
+        Check.law(x, 1, "2");
+        Check.work(x, "winter;round 0 0;");
+        Check.work(x, "winter;");
+        Check.work(x, "winter;");
+        CHECK.is("36: works", 3, x.count(2));
+        CHECK.is("34: restore", 0, x.restore());
+        CHECK.is("36: works of then", 2, x.count(2));
+        CHECK.is("8: undo", 1, x.undo());
+        CHECK.isTrue("8: as it was then", second.equals(tale(x)));
+        CHECK.is("8: undo", 0, x.undo());
+        CHECK.isTrue("8: as it was at first", first.equals(tale(x)));
+    }
+
+    private static void imagesStack() {
+        FieldStones x = worked();
+        String[] then = new String[3];
+        for (int i = 0; i < 3; i++) {
+            then[i] = tale(x);
+            CHECK.is("33: how many", i + 1, x.image());
+            Check.work(x, "winter;");
+        }
+        CHECK.is("33: there are 3", -1, x.image());
+        CHECK.is("36: images", 3, x.count(0));
+        for (int i = 2; i >= 0; i--) {
+            CHECK.is("34: how many are left", i, x.restore());
+            CHECK.isTrue("34: the latest", then[i].equals(tale(x)));
+            CHECK.is("36: works", i, x.count(2));
+        }
+        FieldStones full = new FieldStones();
+        for (int i = 0; i < 20; i++) {
+            Check.work(full, "winter;");
+        }
+        full.image();
+        for (int i = 0; i < 20; i++) {
+            full.undo();
+        }
+        full.restore();
+        CHECK.is("33: all twenty works", 20, full.count(2));
+        CHECK.is("5: -20", -20, full.work(0));
+        for (int i = 19; i >= 0; i--) {
+            full.undo();
+            CHECK.is("8: the year", i, full.told(7));
+        }
+    }
+
+    private static void whatNoImageKeeps() {
+        FieldStones x = worked();
+        Check.law(x, 0, "3");
+        Check.book(x, "0 0 1;");
+        x.image();
+        Check.law(x, 0, "4");
+        Check.law(x, 1, "2");
+        Check.book(x, "0 0 1;1 0 1;");
+        CHECK.noArgument("35: one", () -> x.told(10));
+        Check.law(x, 0, "(");
+        x.feed(0, 0, 0, 0, 0);
+        x.restore();
+        CHECK.is("33: not the law", 4, x.damage(0, 0, 9));
+        CHECK.is("33: not the other one", 2, x.rises(0, 0));
+        CHECK.is("33: not the book", 2, x.told(8));
+        CHECK.is("33: not the fault", 1, x.fault());
+        CHECK.is("33: not the tape", 20, x.count(1));
+        CHECK.is("35: not the refusals", 1, x.status(2));
+        x.work(0);
+        x.undo();
+        CHECK.is("8: undone, the law stays", 4, x.damage(0, 0, 9));
+    }
+
+    private static void status() {
+        FieldStones x = new FieldStones();
+        CHECK.noCell("35: a cell", () -> x.cell(6, 0, 9));
+        CHECK.noStone("35: a stone", () -> x.stone(0, 9));
+        CHECK.noStone("35: a stone", () -> x.clear(0));
+        CHECK.noArgument("35: an argument", () -> x.told(-1));
+        CHECK.noArgument("35: an argument", () -> x.chosen(2));
+        CHECK.noArgument("35: an argument", () -> x.work(1));
+        for (int i = 0; i < 3; i++) {
+            CHECK.is("35: by reason", i + 1, x.status(i));
+        }
+        Check.field(x, "bar");
+        x.undo();
+        CHECK.is("35: a fault is none", 3, x.status(2));
+        Check.field(x, "");
+        CHECK.is("35: no field forgets them", 1, x.status(0));
+        CHECK.is("35: others", -1, x.status(3));
+        CHECK.is("35: others", -1, x.status(-1));
+    }
+
+    private static void counts() {
+        FieldStones x = new FieldStones();
+        x.feed(0, 0, 0, 0, 0);
+        x.feed(0, 0, 0, 0, 0);
+        x.image();
+        CHECK.is("36: images", 1, x.count(0));
+        CHECK.is("36: bytes", 40, x.count(1));
+        x.work(0);
+        CHECK.is("36: works", 1, x.count(2));
+        CHECK.is("36: no bytes", 0, x.count(1));
+        CHECK.is("36: others", -1, x.count(3));
+        CHECK.is("36: others", -1, x.count(-1));
+    }
+}
