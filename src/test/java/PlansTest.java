@@ -153,6 +153,9 @@ public final class PlansTest {
         Check.work(far, "round 7 5;");
         firstIs("not in lost cells", far, 999, 0, 0, 0);
         firstIs("more than any minutes", Check.field("stone 0 0 9;".repeat(25)), 999, 0, 0, 0);
+        FieldStones most = Check.field("field 1 1;lads 2 4 9;bar 30;" + "stone 0 0 9;".repeat(3) + "stone 0 0 3;".repeat(9));
+        firstIs("just so many minutes", most, 999, 5, 999, 1);
+        firstIs("one too few", most, 998, 0, 0, 0);
         CHECK.noArgument("21: minutes", () -> far.first(-1, 0));
         CHECK.noArgument("21: minutes", () -> far.first(1000, 0));
         CHECK.noArgument("21: what", () -> far.first(0, 3));

@@ -72,7 +72,10 @@ public final class ReadingTest {
         CHECK.is("3: the last bar counts", 180, x.clear(1));
         CHECK.is("3: the last sledge counts", 1, Check.work(x, "to 2 1;"));
         CHECK.is("3: B and P times 3", 19, x.sums(0));
-        Check.field(x, "stone 1 0 4;stone 1 0 5;sledge 3 1 9;");
+        Check.field(x, "stone 1 0 4;stone 1 0 5;" + "stone 0 0 1;".repeat(13));
+        CHECK.is("3: a sledge without a clause holds 12", (1 << 12) - 1 << 2, x.loads(0, 0));
+        Check.work(x, "to 1 1;");
+        CHECK.is("3: B and P without a clause", 5, x.sums(0));
         CHECK.is("3: lads without a clause", 2 * 2 + 4, x.clear(0));
         CHECK.is("3: bar without a clause", 25, x.clear(1));
         String[] sound = {"", "   ", "stone0 0 1;", " stone  0  0  1 ; ", "bar 00000000000000000007;", "field8 6 ;",
@@ -137,11 +140,7 @@ public final class ReadingTest {
 
     private static void fieldForgets() {
         FieldStones x = Check.field("stone 0 0 4;");
-        Check.law(x, 0, "7");
-        Check.law(x, 1, "1");
-        Check.book(x, "0 0 1;");
-        Check.work(x, "lift 0 0;lift 0 0;winter;");
-        x.image();
+        useUp(x);
         CHECK.is("3: a fault", -9, Check.field(x, "bar"));
         CHECK.is("3: keeps the law", 7, x.damage(0, 0, 1));
         CHECK.is("3: keeps the year", 1, x.told(7));
@@ -149,8 +148,26 @@ public final class ReadingTest {
         CHECK.is("3: keeps the refused", 1, x.told(9));
         CHECK.is("3: keeps images", 1, x.count(0));
         CHECK.is("3: keeps works", 1, x.count(2));
-        CHECK.is("3: keeps stones", 25, x.told(2));
-        CHECK.is("3: new", 1, Check.field(x, "stone 0 0 4;"));
+        CHECK.is("3: keeps stones", 47, x.told(2));
+        // More than once: what an earlier field left behind must not come back.
+        for (int i = 0; i < 4; i++) {
+            CHECK.is("3: new", 1, Check.field(x, "stone 0 0 4;"));
+            isNew(x);
+            useUp(x);
+        }
+        CHECK.is("3: 0 bytes", 0, x.field(0));
+        CHECK.is("3: no stones", 0, x.told(2));
+    }
+
+    private static void useUp(FieldStones x) {
+        Check.law(x, 0, "7");
+        Check.law(x, 1, "2");
+        Check.book(x, "0 0 1;");
+        Check.work(x, "lift 0 0;to 1 0;heap;winter;lift 2 1;to 5 3;lift 1 1;wall;lift 5 3;bar;round 4 3;to 1 1;");
+        x.image();
+    }
+
+    private static void isNew(FieldStones x) {
         CHECK.is("3: no law", 2, x.damage(0, 0, 1));
         CHECK.is("3: none rises", 0, x.rises(0, 0));
         int[] told = {6, 4, 1, 1, 0, 0, 0, 0, 0, 0};
@@ -160,10 +177,18 @@ public final class ReadingTest {
         for (int what = 0; what < 4; what++) {
             CHECK.is("3: sums", 0, x.sums(what));
         }
+        for (int what = 0; what < 3; what++) {
+            CHECK.is("3: sledge", 0, x.sledge(what));
+        }
+        for (int cell = 0; cell < 24; cell++) {
+            CHECK.is("3: lies", cell == 0 ? 1 : 0, x.cell(cell % 6, cell / 6, 1));
+            CHECK.is("3: lost", 0, x.cell(cell % 6, cell / 6, 3));
+            CHECK.is("3: in a heap", 0, x.cell(cell % 6, cell / 6, 4));
+        }
+        CHECK.is("3: the year in which it came", 0, x.stone(0, 3));
+        CHECK.is("3: it lies", 0, x.stone(0, 4));
         CHECK.is("3: no image", -1, x.restore());
         CHECK.is("3: nothing to undo", -1, x.undo());
-        CHECK.is("3: 0 bytes", 0, x.field(0));
-        CHECK.is("3: no stones", 0, x.told(2));
     }
 
     private static void faultsLeaveAllElse() {

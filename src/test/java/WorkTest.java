@@ -218,6 +218,8 @@ public final class WorkTest {
         CHECK.is("9: refused", 14 * 20 + 3, x.told(9));
         CHECK.is("5: no time", 1, Check.work(x, "again 0 [winter;winter;];to 6 0;"));
         CHECK.is("5: empty agains", 1, Check.work(x, "again 20 [again 20 [];];to 5 0;"));
+        CHECK.is("5: many empty agains, not yet 300", 1, Check.work(x, "again 14[again 20[again 20[];];];to 4 0;"));
+        CHECK.is("12: there", 4, x.sledge(0));
         CHECK.is("5: nothing", 0, Check.work(x, ""));
         CHECK.is("9: none refused", 0, x.told(9));
     }

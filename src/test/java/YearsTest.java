@@ -7,6 +7,7 @@ public final class YearsTest {
     public static void main(String[] args) {
         enough();
         left();
+        leftInThirtyYears();
         fits();
         frost();
         span();
@@ -64,6 +65,12 @@ public final class YearsTest {
         Check.work(lost, "round 1 0;");
         CHECK.is("24: lost ones are not counted", 0, lost.left(5, 1));
         CHECK.is("24: but the law counts them", 1, lost.left(5, 2));
+    }
+
+    private static void leftInThirtyYears() {
+        FieldStones slow = Check.field("field 1 1;" + "stone 0 0 1;".repeat(30));
+        CHECK.is("24: one a year", 1, slow.left(3, 29));
+        CHECK.is("24: till the 30th", 0, slow.left(3, 30));
     }
 
     private static void fits() {
