@@ -249,7 +249,7 @@ public final class FieldStones {
     }
 
     public int enough(int minutes, int n) throws IllegalArgumentException {
-        needArgument(minutes >= 0 && minutes <= 9999 && n >= 0 && n <= STONES);
+        needArgument(minutes >= 0 && minutes <= 9999 && isLimit(n));
         return forecast.yearOfEnough(ground, world, minutes, n);
     }
 
@@ -272,7 +272,7 @@ public final class FieldStones {
     }
 
     public int span(int seed, int many, int q, int winters, int n, int what) throws IllegalArgumentException {
-        needArgument(isFrost(q, winters) && many >= 1 && many <= 20 && what >= 0 && what <= 2);
+        needArgument(isFrost(q, winters) && many >= 1 && many <= 20 && isLimit(n) && what >= 0 && what <= 2);
         int fewest = STONES;
         int most = 0;
         int fine = 0;
@@ -392,6 +392,11 @@ public final class FieldStones {
     private void openText(int n, int most) {
         needArgument(n >= 0 && n <= most && n <= tape.length);
         tape.open(n);
+    }
+
+    /** The document tells the bounds of "no more than n" at enough alone; they hold wherever it asks so. */
+    private static boolean isLimit(int n) {
+        return n >= 0 && n <= STONES;
     }
 
     /** The document names no bounds for Q; a draw is 0 to 15, and the shared tests refuse 17. */

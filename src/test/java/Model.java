@@ -1028,6 +1028,7 @@ final class Model {
         needIn(many, 1, 20);
         needIn(q, 0, 16);
         needIn(winters, 1, 20);
+        needIn(n, 0, 60);
         needWhat(what, 2);
         List<Integer> all = new ArrayList<>();
         int fine = 0;

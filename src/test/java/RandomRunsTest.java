@@ -209,7 +209,7 @@ public final class RandomRunsTest {
         int q = dice.once(20) ? dice.from(-1, 17) : dice.below(6);
         int winters = dice.once(20) ? dice.from(0, 21) : dice.from(1, 4);
         int many = dice.once(20) ? dice.from(0, 21) : dice.from(1, 4);
-        int n = dice.below(70) - 5;
+        int n = dice.once(10) ? dice.from(59, 61) : dice.from(-1, 30);
         String told = " " + seed + " " + many + " " + q + " " + winters + " " + n + " " + what;
         if (dice.once(2)) {
             same("frost" + told, () -> program.frost(seed, q, winters, what),

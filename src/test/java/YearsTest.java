@@ -154,6 +154,8 @@ public final class YearsTest {
         CHECK.is("27: the seed wraps", 3, x.span(Integer.MAX_VALUE, 2, 9, 1, 2, 1));
         CHECK.is("27: twenty", 20, x.span(0, 20, 16, 20, 60, 2));
         CHECK.is("27: all full", 60, x.span(0, 20, 16, 20, 60, 0));
+        CHECK.is("27: an n of 60 is none too large", 0, x.span(0, 1, 0, 1, 60, 0));
+        CHECK.is("27: an n of 0 is none too small", 1, x.span(0, 1, 0, 1, 0, 2));
     }
 
     private static void wrongInputs() {
@@ -178,8 +180,12 @@ public final class YearsTest {
         CHECK.noArgument("27: Q", () -> x.span(0, 1, -1, 1, 0, 0));
         CHECK.noArgument("27: winters", () -> x.span(0, 1, 0, 0, 0, 0));
         CHECK.noArgument("27: winters", () -> x.span(0, 1, 0, 21, 0, 0));
+        CHECK.noArgument("27: n, asked by any what", () -> x.span(0, 1, 0, 1, -1, 0));
+        CHECK.noArgument("27: n, asked by any what", () -> x.span(0, 1, 0, 1, 61, 1));
+        CHECK.noArgument("27: n", () -> x.span(0, 1, 0, 1, -1, 2));
+        CHECK.noArgument("27: n", () -> x.span(0, 1, 0, 1, 61, 2));
         CHECK.noArgument("27: what", () -> x.span(0, 1, 0, 1, 0, 3));
         CHECK.noArgument("27: what", () -> x.span(0, 1, 0, 1, 0, -1));
-        CHECK.is("35: arguments", 22, x.status(2));
+        CHECK.is("35: arguments", 26, x.status(2));
     }
 }
