@@ -94,6 +94,17 @@ public final class PlansTest {
         heapsAre("sixty years", two, 60, 21, 0);
         Check.work(two, "round 2 0;");
         heapsAre("not in lost cells", two, 1, 5, 4);
+        FieldStones here = Check.field("field 2 1;stone 0 0 1;soil 0 0 0;");
+        heapsAre("in the first cell", here, 60, 0, 1);
+        heapsAre("the first cell with another one", Check.field("field 8 1;stone 0 0 1;stone 7 0 1;"), 0, 0, 64 + 8);
+        FieldStones beside = Check.field("field 5 1;stone 4 0 1;");
+        Check.work(beside, "round 3 0;");
+        heapsAre("its own cell", beside, 0, 0, 5);
+        Check.work(beside, "lift 4 0;to 4 0;heap;");
+        heapsAre("nothing lies", beside, 0, 0, 0);
+        FieldStones around = Check.field("field 8 1;stone 5 0 1;stone 7 0 1;soil 5 0 9;soil 7 0 9;");
+        Check.work(around, "round 6 0;");
+        heapsAre("no heap in a lost cell, be it the best", around, 1, 1 + 3 + 5, 5);
         FieldStones three = Check.field("field 8 6;stone 7 0 1;stone 7 5 1;stone 6 5 1;stone 0 3 1;");
         heapsAre("8 Y and X, the first cells", three, 0, 1 + 1, (8 * 0 + 7 + 1) * 64 + 40 + 6 + 1);
         CHECK.noArgument("19: years", () -> three.heaps(-1, 0));
@@ -145,6 +156,9 @@ public final class PlansTest {
         FieldStones heavy = Check.field("stone 0 0 1;stone 0 0 4;stone 1 0 2;soil 1 0 9;");
         firstIs("the richer one", heavy, 14, 9, 6, 2);
         firstIs("all of a cell", heavy, 15, 14, 15, 3);
+        FieldStones poor = Check.field("stone 0 0 4;stone 1 0 1;soil 0 0 1;soil 1 0 2;");
+        firstIs("more minutes than pence", poor, 10, 2, 5, 2);
+        firstIs("more minutes than pence, both", poor, 11, 3, 11, 3);
         FieldStones sly = Check.field("stone 0 0 2;stone 0 1 1;stone 0 2 1;soil 0 0 50;soil 0 1 30;soil 0 2 30;");
         firstIs("the two smaller ones", sly, 6, 60, 6, 65792);
         firstIs("one of them with the large one", sly, 7, 80, 7, 257);
@@ -178,6 +192,8 @@ public final class PlansTest {
         mixIs("one has too few minutes", x, 50, 1, 9, 51, 3, 0);
         mixIs("13 hands", x, 4, 5, 5, 4 * (4 * 5 + 3 * 5), 4, 3);
         mixIs("too few minutes", x, 3, 5, 5, -1, -1, -1);
+        mixIs("six lads", x, 9, 1, 99, 9 * 6, 6, 0);
+        mixIs("no seven lads", x, 8, 1, 99, 6 * (6 + 99), 6, 1);
         mixIs("most minutes", x, 9999, 99, 99, 17 * 99, 0, 1);
         Check.work(x, "round 0 1;round 1 1;round 1 0;");
         mixIs("12 alone", x, 12, 1, 99, 12, 1, 0);

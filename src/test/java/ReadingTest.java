@@ -122,6 +122,8 @@ public final class ReadingTest {
         fieldFault("soil 0 0 100;", 2, 9);
         fieldFault("lads 0 1 1;", 2, 5);
         fieldFault("lads 6 0 1;", 2, 7);
+        fieldFault("lads 7 9 1;", 2, 5);
+        fieldFault("lads 6 10 1;", 2, 7);
         fieldFault("lads 6 9 10;", 2, 9);
         fieldFault("lads 6 9 0;", 2, 9);
         fieldFault("sledge 61 1 1;", 2, 7);
@@ -350,6 +352,10 @@ public final class ReadingTest {
         CHECK.noArgument("5: more than the tape", () -> x.work(21));
         CHECK.noArgument("4: more than the tape", () -> x.law(0, 21));
         CHECK.is("35: all were counted", 15, x.status(2));
+        FieldStones y = Check.field("stone 0 0 2;lads 1 1 1;bar 7;");
+        CHECK.is("3: the least A", 14, y.clear(0));
+        Check.feed(y, " ".repeat(100));
+        CHECK.is("6: 100 bytes", 0, y.book(100));
     }
 
     private static void tooManyWorks() {

@@ -129,6 +129,9 @@ public final class WorkTest {
         CHECK.is("5: a lost cell takes a heap", 1, Check.work(x, "heap;"));
         CHECK.is("11: 5 in it", 5, x.cell(2, 1, 4));
         CHECK.is("13: nothing in the wall", 0, x.sums(3));
+        FieldStones y = Check.field("stone 1 0 9;stone 0 0 1;");
+        CHECK.is("5: the first stone lies there", 3, Check.work(y, "lift 0 0;to 1 0;heap;"));
+        CHECK.is("10: it is in the heap", 3, y.stone(0, 4));
     }
 
     private static void rounds() {
@@ -158,6 +161,9 @@ public final class WorkTest {
         Check.law(x, 0, "year");
         Check.work(x, "again 3 [winter;];");
         CHECK.is("13: all cells lost but what is on the sledge", 20, x.sums(1));
+        FieldStones large = Check.field("stone 0 0 9;stone 0 0 8;");
+        Check.work(large, "winter;");
+        CHECK.is("13: damage of the largest, too", 34, large.sums(1));
         FieldStones y = Check.field("field 1 1;stone 0 0 1;");
         Check.law(y, 0, "year+1");
         Check.work(y, "again 3 [winter;];");
@@ -238,6 +244,13 @@ public final class WorkTest {
         CHECK.is("31: of alike ones the first", 10, x.stoniest());
         Check.field(x, "stone 3 2 4;stone 1 2 3;stone 1 2 1;");
         CHECK.is("31: row by row", 17, x.stoniest());
+        Check.field(x, "stone 0 0 4;stone 1 0 3;");
+        CHECK.is("28: the first stone is the largest", 0, x.chosen(0));
+        CHECK.is("28: the first stone is the nearest", 0, x.chosen(1));
+        CHECK.is("31: the first cell", 0, x.stoniest());
+        Check.work(x, "lift 0 0;");
+        CHECK.is("31: 3 lie", 1, x.stoniest());
+        Check.field(x, "stone 3 2 4;stone 1 2 3;stone 1 2 1;");
         Check.work(x, "lift 3 2;lift 1 2;");
         CHECK.is("28: none lies", -1, x.chosen(0));
         CHECK.is("28: none lies", -1, x.chosen(1));
