@@ -3,65 +3,67 @@ public final class PastTest {
     private static final Check CHECK = new Check();
 
     public static void main(String[] args) {
-        undo();
+        undoneOne();
+        undoneAll();
+        whatUndoLeaves();
+        twentyUndone();
         images();
+        whatFieldsDoToImages();
         imagesKeepWorks();
         imagesStack();
+        imagesKeepTwentyWorks();
         whatNoImageKeeps();
         status();
         counts();
+        toTheLastCall();
         CHECK.end();
     }
 
-    private static String tale(FieldStones x) {
-        StringBuilder text = new StringBuilder();
-        for (int what = 2; what < 8; what++) {
-            text.append(x.told(what)).append(' ');
-        }
-        for (int what = 0; what < 4; what++) {
-            text.append(x.sums(what)).append(' ');
-        }
-        for (int what = 0; what < 3; what++) {
-            text.append(x.sledge(what)).append(' ');
-        }
-        for (int stone = 0; stone < x.told(2); stone++) {
-            for (int what = 0; what < 5; what++) {
-                text.append(x.stone(stone, what)).append(' ');
-            }
-        }
-        for (int cell = 0; cell < 24; cell++) {
-            for (int what = 0; what < 5; what++) {
-                text.append(x.cell(cell % 6, cell / 6, what)).append(' ');
-            }
-        }
-        return text.toString();
-    }
-
+    /** One stone rises each winter, in cell 2 1. */
     private static FieldStones worked() {
-        FieldStones x = Check.field("stone 0 0 4;stone 1 0 9;stone 5 3 2;");
-        Check.law(x, 1, "x / 5 + y / 3");
+        FieldStones x = Check.field("field 3 2;stone 0 0 4;stone 1 0 9;stone 2 1 2;");
+        Check.law(x, 1, "x / 2 * y");
         return x;
     }
 
-    private static final String[] WORKS = {"lift 0 0;", "to 1 0;heap;", "winter;", "round 5 3;bar;", "", "lift 9", "to 5 3;"
-        + "lift 5 3;lift 5 3;wall;", "again 3 [winter;];"};
+    private static final String[] WORKS = {"lift 0 0;", "to 1 0;heap;", "winter;", "round 2 1;bar;", "", "to 2 1;"
+        + "lift 2 1;lift 2 1;wall;", "again 3 [winter;];", "bar;wall;"};
 
-    private static void undo() {
-        FieldStones x = worked();
-        CHECK.is("8: there is none", -1, x.undo());
-        String[] before = new String[WORKS.length];
-        int works = 0;
-        for (String work : WORKS) {
-            before[works] = tale(x);
-            works += Check.work(x, work) >= 0 ? 1 : 0;
-            CHECK.is("36: works", works, x.count(2));
-        }
-        CHECK.is("8: one had a fault", WORKS.length - 1, works);
-        for (int i = works - 1; i >= 0; i--) {
-            CHECK.is("8: how many are left", i, x.undo());
-            CHECK.isTrue("8: as it was ahead of work " + i, before[i].equals(tale(x)));
+    private static void undoneOne() {
+        for (int latest = 0; latest < WORKS.length; latest++) {
+            FieldStones x = worked();
+            for (int i = 0; i < latest; i++) {
+                Check.work(x, WORKS[i]);
+            }
+            String before = Tale.ofWork(x);
+            CHECK.isTrue("8: done", Check.work(x, WORKS[latest]) >= 0);
+            CHECK.is("36: works", latest + 1, x.count(2));
+            CHECK.is("8: how many are left", latest, x.undo());
+            CHECK.is("36: works", latest, x.count(2));
+            CHECK.isTrue("8: as it was ahead of work " + latest, before.equals(Tale.ofWork(x)));
             CHECK.is("9: refused", 0, x.told(9));
         }
+    }
+
+    private static void undoneAll() {
+        FieldStones x = worked();
+        String first = Tale.ofWork(x);
+        CHECK.is("8: there is none", -1, x.undo());
+        for (String work : WORKS) {
+            Check.work(x, work);
+        }
+        CHECK.is("5: a fault", -9, Check.work(x, "winter"));
+        CHECK.is("8: a fault is no work", WORKS.length, x.count(2));
+        for (int left = WORKS.length - 1; left >= 0; left--) {
+            CHECK.is("8: how many are left", left, x.undo());
+        }
+        CHECK.isTrue("8: as at first", first.equals(Tale.ofWork(x)));
+        CHECK.is("8: there is none", -1, x.undo());
+        CHECK.isTrue("8: -1 changes nothing", first.equals(Tale.ofWork(x)));
+    }
+
+    private static void whatUndoLeaves() {
+        FieldStones x = worked();
         Check.work(x, "bar;bar;");
         CHECK.is("9: two refused", 2, x.told(9));
         x.undo();
@@ -69,7 +71,7 @@ public final class PastTest {
         Check.work(x, "");
         CHECK.is("8: of no steps, too", 0, x.undo());
         Check.work(x, "bar;");
-        x.undo();
+        CHECK.is("8: with all of them refused, too", 0, x.undo());
         Check.work(x, "winter");
         CHECK.is("8: there is none", -1, x.undo());
         Check.work(x, "bar;");
@@ -77,39 +79,72 @@ public final class PastTest {
         CHECK.is("8: a field with a fault keeps it", 0, x.undo());
         Check.work(x, "bar;");
         x.undo();
-        CHECK.is("8: -1 leaves the refused", 0, x.told(9));
+        CHECK.is("9: refused by a work undone", 0, x.told(9));
+        Check.work(x, "bar;");
+        Check.law(x, 0, "3");
+        Check.book(x, "0 0 1;");
+        x.feed(0, 0, 0, 0, 0);
+        x.image();
+        x.undo();
+        CHECK.is("8: the law stays", 3, x.damage(0, 0, 9));
+        CHECK.is("8: the book stays", 1, x.told(8));
+        CHECK.is("8: the tape stays", 20, x.count(1));
+        CHECK.is("8: the image stays", 1, x.count(0));
+        Check.work(x, "winter;");
+        Check.field(x, "field 3 2;");
+        CHECK.is("3: a field leaves nothing to undo", -1, x.undo());
+    }
+
+    private static void twentyUndone() {
+        FieldStones x = new FieldStones();
+        for (int i = 0; i < 20; i++) {
+            Check.work(x, "winter;");
+        }
+        CHECK.is("5: the 21st", -20, Check.work(x, "winter;"));
+        for (int left = 19; left >= 0; left--) {
+            CHECK.is("8: how many are left", left, x.undo());
+            CHECK.is("8: the year", left, x.told(7));
+        }
+        CHECK.is("8: there is none", -1, x.undo());
     }
 
     private static void images() {
         FieldStones x = worked();
         CHECK.is("34: there is none", -1, x.restore());
         Check.work(x, "lift 0 0;winter;bar;bar;");
-        String then = tale(x);
+        String then = Tale.ofWork(x);
         CHECK.is("33: one", 1, x.image());
         CHECK.is("9: an image leaves the refused", 2, x.told(9));
         Check.work(x, "wall;winter;round 0 0;to 1 1;bar;");
-        CHECK.isTrue("5: changed", !then.equals(tale(x)));
+        CHECK.isTrue("5: changed", !then.equals(Tale.ofWork(x)));
         CHECK.is("34: none is left", 0, x.restore());
-        CHECK.isTrue("34: all as then", then.equals(tale(x)));
+        CHECK.isTrue("34: all as then", then.equals(Tale.ofWork(x)));
         CHECK.is("9: refused", 0, x.told(9));
         Check.work(x, "bar;");
         CHECK.is("34: it is gone", -1, x.restore());
         CHECK.is("9: -1 leaves the refused", 1, x.told(9));
+    }
+
+    private static void whatFieldsDoToImages() {
+        FieldStones x = worked();
         x.image();
+        Check.field(x, "x");
+        CHECK.is("3: a field with a fault keeps the images", 1, x.count(0));
         Check.field(x, "stone 0 0 1;");
         CHECK.is("3: a field takes the images", -1, x.restore());
+        CHECK.is("33: the first one again", 1, x.image());
     }
 
     private static void imagesKeepWorks() {
-        FieldStones x = worked();
-        String first = tale(x);
+        FieldStones x = Check.field("field 2 1;stone 0 0 4;");
+        String first = Tale.ofWork(x);
         Check.work(x, "winter;");
-        String second = tale(x);
+        String second = Tale.ofWork(x);
         Check.work(x, "lift 0 0;");
         x.image();
         x.undo();
         x.undo();
-        CHECK.isTrue("8: as at first", first.equals(tale(x)));
+        CHECK.isTrue("8: as at first", first.equals(Tale.ofWork(x)));
         Check.law(x, 1, "2");
         Check.work(x, "winter;round 0 0;");
         Check.work(x, "winter;");
@@ -118,26 +153,35 @@ public final class PastTest {
         CHECK.is("34: restore", 0, x.restore());
         CHECK.is("36: works of then", 2, x.count(2));
         CHECK.is("8: undo", 1, x.undo());
-        CHECK.isTrue("8: as it was then", second.equals(tale(x)));
+        CHECK.isTrue("8: as it was then", second.equals(Tale.ofWork(x)));
         CHECK.is("8: undo", 0, x.undo());
-        CHECK.isTrue("8: as it was at first", first.equals(tale(x)));
+        CHECK.isTrue("8: as it was at first", first.equals(Tale.ofWork(x)));
     }
 
     private static void imagesStack() {
-        FieldStones x = worked();
+        FieldStones x = Check.field("field 2 1;stone 0 0 4;");
         String[] then = new String[3];
         for (int i = 0; i < 3; i++) {
-            then[i] = tale(x);
+            then[i] = Tale.ofWork(x);
             CHECK.is("33: how many", i + 1, x.image());
             Check.work(x, "winter;");
         }
+        Check.work(x, "bar;");
+        String last = Tale.ofWork(x);
         CHECK.is("33: there are 3", -1, x.image());
+        CHECK.isTrue("33: -1 changes nothing", last.equals(Tale.ofWork(x)));
+        CHECK.is("9: -1 leaves the refused", 1, x.told(9));
         CHECK.is("36: images", 3, x.count(0));
         for (int i = 2; i >= 0; i--) {
             CHECK.is("34: how many are left", i, x.restore());
-            CHECK.isTrue("34: the latest", then[i].equals(tale(x)));
+            CHECK.isTrue("34: the latest", then[i].equals(Tale.ofWork(x)));
             CHECK.is("36: works", i, x.count(2));
         }
+        CHECK.is("34: there is none", -1, x.restore());
+        CHECK.is("33: one again", 1, x.image());
+    }
+
+    private static void imagesKeepTwentyWorks() {
         FieldStones full = new FieldStones();
         for (int i = 0; i < 20; i++) {
             Check.work(full, "winter;");
@@ -196,6 +240,7 @@ public final class PastTest {
         CHECK.is("35: no field forgets them", 1, x.status(0));
         CHECK.is("35: others", -1, x.status(3));
         CHECK.is("35: others", -1, x.status(-1));
+        CHECK.is("35: others are no refusals", 3, x.status(2));
     }
 
     private static void counts() {
@@ -210,5 +255,17 @@ public final class PastTest {
         CHECK.is("36: no bytes", 0, x.count(1));
         CHECK.is("36: others", -1, x.count(3));
         CHECK.is("36: others", -1, x.count(-1));
+        CHECK.is("35: others are no refusals", 0, x.status(2));
+    }
+
+    /** An object is used for at most 512 calls: the last one answers as the first. */
+    private static void toTheLastCall() {
+        FieldStones x = new FieldStones();
+        for (int i = 0; i < 255; i++) {
+            CHECK.is("33: image", 1, x.image());
+            CHECK.is("34: restore", 0, x.restore());
+        }
+        CHECK.noCell("35: the 511th call is refused", () -> x.rises(0, 4));
+        CHECK.is("35: the 512th call", 1, x.status(0));
     }
 }

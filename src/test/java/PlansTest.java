@@ -210,28 +210,12 @@ public final class PlansTest {
         CHECK.is("35: arguments", 8, x.status(2));
     }
 
-    private static String tale(FieldStones x) {
-        StringBuilder text = new StringBuilder();
-        for (int what = 0; what < 10; what++) {
-            text.append(x.told(what)).append(' ');
-        }
-        for (int what = 0; what < 4; what++) {
-            text.append(x.sums(what)).append(' ');
-        }
-        for (int stone = 0; stone < x.told(2); stone++) {
-            for (int what = 0; what < 5; what++) {
-                text.append(x.stone(stone, what)).append(' ');
-            }
-        }
-        return text.toString();
-    }
-
     private static void nothingIsChanged() {
-        FieldStones x = Check.field("stone 0 0 1;stone 3 2 4;stone 5 3 9;");
+        FieldStones x = Check.field("field 3 2;stone 0 0 1;stone 2 1 4;stone 1 1 9;");
         Check.law(x, 1, "year % 2");
         Check.book(x, "1 1 1;");
-        Check.work(x, "lift 3 2;winter;heap;wall;");
-        String before = tale(x);
+        Check.work(x, "lift 2 1;winter;heap;wall;");
+        String before = Tale.ofAll(x);
         x.stops(0, 0);
         x.way(0);
         x.heaps(1, 0);
@@ -243,6 +227,6 @@ public final class PlansTest {
         x.fits();
         x.frost(1, 9, 20, 0);
         x.span(1, 20, 9, 5, 9, 2);
-        CHECK.isTrue("17 to 27: asked, nothing stays changed", before.equals(tale(x)));
+        CHECK.isTrue("17 to 27: asked, nothing stays changed", before.equals(Tale.ofAll(x)));
     }
 }

@@ -5,6 +5,11 @@ import java.util.NoSuchElementException;
  * exception is to be the same. How many runs, and from which seed on, may be told as two numbers.
  */
 public final class RandomRunsTest {
+    /** The document promises nothing behind so many calls of one object. */
+    private static final int MOST_CALLS = 512;
+    /** A text takes 31 calls at most to feed, one to be read, and one for its fault. */
+    private static final int CALLS_OF_A_STEP = 33;
+
     private interface Call {
         long run();
     }
@@ -48,8 +53,12 @@ public final class RandomRunsTest {
                 text(2, texts.law());
             }
         }
-        while (calls < 500 && !isWrong) {
+        while (calls <= MOST_CALLS - CALLS_OF_A_STEP && !isWrong) {
             step();
+        }
+        // A question takes two calls at most.
+        while (calls < MOST_CALLS - 1 && !isWrong) {
+            questions();
         }
     }
 
@@ -114,8 +123,8 @@ public final class RandomRunsTest {
         switch (kind) {
             case 0 -> {
                 same("field " + told, () -> program.field(n), () -> model.field(n));
-                w = program.told(0);
-                h = program.told(1);
+                w = model.told(0);
+                h = model.told(1);
                 texts.sizes(w, h);
             }
             case 1, 2 -> {
@@ -142,7 +151,7 @@ public final class RandomRunsTest {
         int small = what(2);
         int x = cellNumber(w);
         int y = cellNumber(h);
-        int stone = dice.once(20) ? dice.from(-1, 61) : dice.below(Math.max(1, program.told(2)));
+        int stone = dice.once(20) ? dice.from(-1, 61) : dice.below(Math.max(1, model.told(2)));
         switch (kind) {
             case 0 -> same("undo", program::undo, model::undo);
             case 1 -> same("image", program::image, model::image);
