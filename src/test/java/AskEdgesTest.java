@@ -30,7 +30,10 @@ public final class AskEdgesTest {
         fitsByLines();
         frost();
         frostOfSixty();
+        whatIsNotAsked();
         span();
+        sixtyStones();
+        yearsOfSixty();
         CHECK.end();
     }
 
@@ -529,5 +532,92 @@ public final class AskEdgesTest {
         CHECK.is("27: but more than 19", 0, x.span(0, 20, 16, 20, 19, 2));
         CHECK.is("27: the fewest", 20, x.span(0, 20, 16, 20, 0, 0));
         CHECK.is("27: the most", 20, x.span(0, 20, 16, 20, 60, 1));
+    }
+
+    /** One on the sledge, one in the wall, two in a heap, one in a lost cell: only what lies in 0 1 is asked. */
+    private static void whatIsNotAsked() {
+        FieldStones x = Check.field("field 3 2;stone 0 0 1;stone 1 0 2;stone 2 0 2;stone 2 1 3;stone 1 1 9;stone 0 1 4;");
+        Check.work(x, "lift 0 0;wall;lift 1 0;to 2 0;heap;lift 2 1;round 1 1;");
+        CHECK.is("9: two lie", 2, x.told(3));
+        CHECK.is("9: on the sledge", 1, x.told(4));
+        CHECK.is("9: in the wall", 1, x.told(5));
+        CHECK.is("9: in a heap", 2, x.told(6));
+        CHECK.is("26: how many lie", 1, x.frost(5, 0, 1, 0));
+        CHECK.is("26: all their sizes", 4, x.frost(5, 0, 1, 1));
+        CHECK.is("26: damage", 8, x.frost(5, 0, 1, 2));
+        CHECK.is("27: how many lie", 1, x.span(5, 2, 0, 1, 1, 1));
+        CHECK.is("24: how many lie", 1, x.left(0, 1));
+        CHECK.is("23: the one is too long", -1, x.enough(5, 0));
+        CHECK.is("23: the one is cleared", 1, x.enough(6, 0));
+        CHECK.is("22: the one is cleared", 6, x.mix(6, 1, 99, 0));
+        CHECK.is("21: its cell", 1 << 8, x.first(999, 2));
+        CHECK.is("20: its clearing", 6, x.line(60, 1));
+        CHECK.is("19: from there to the wall", 1, x.heaps(1, 0));
+        CHECK.is("18: its row", 1, x.way(1));
+        CHECK.is("17: its cell", 1, x.stops(1, 2));
+        CHECK.is("17: none in the other row", 0, x.stops(0, 1));
+        Check.book(x, "0 1 1;");
+        CHECK.is("25: as large as it is", 1 + 2 + 4 + 8, x.fits());
+    }
+
+    /**
+     * Thirty of size 1, and thirty that rose: 8 9, 6 7, 4 5, 2 3, 9 1, 7 8, 5 6, 3 4, 1 2, 8 9, 6 7, 4 5, 2 3, 9 1, 7 8.
+     * All sizes are 189. The lads clear 42 stones (84 minutes, and their sizes, 60), the bar 18 of 129 together.
+     */
+    private static FieldStones sixty() {
+        FieldStones x = Check.field("field 1 1;" + "stone 0 0 1;".repeat(30));
+        Check.law(x, 1, "2");
+        Check.work(x, "again 15[winter;];");
+        return x;
+    }
+
+    private static final int SIXTY_CLEARED = 84 + 60 + 5 * 129;
+
+    private static void sixtyStones() {
+        FieldStones x = sixty();
+        CHECK.is("11: sixty lie", 60, x.cell(0, 0, 1));
+        CHECK.is("11: all their sizes", 189, x.cell(0, 0, 2));
+        stopsAre("sixty", x, 0, 3, 1, 1);
+        wayIs("sixty", x, 0, 0);
+        heapsAre("sixty, no years", x, 0, 0, 1);
+        heapsAre("sixty, 11 years", x, 11, 55, 1);
+        heapsAre("sixty, 12 years", x, 12, 60, 0);
+        heapsAre("sixty, 60 years", x, 60, 60, 0);
+        lineIs("sixty, no years", x, 0, 10, 0);
+        lineIs("sixty, 60 years", x, 60, 1, SIXTY_CLEARED);
+        firstIs("sixty", x, SIXTY_CLEARED, 5, SIXTY_CLEARED, 1);
+        firstIs("sixty, one minute too few", x, SIXTY_CLEARED - 1, 0, 0, 0);
+        mixIs("sixty by a lad", x, SIXTY_CLEARED, 1, 99, SIXTY_CLEARED, 1, 0);
+        mixIs("sixty by all hands", x, 53, 1, 1, 53 * 9, 6, 3);
+        mixIs("sixty in too few minutes", x, 52, 1, 1, -1, -1, -1);
+        CHECK.is("28: the largest", 31, x.chosen(0));
+        CHECK.is("28: the nearest", 0, x.chosen(1));
+        CHECK.is("31: stoniest", 0, x.stoniest());
+        CHECK.is("30: twelve of size 1", (1 << 12) - 1, x.loads(0, 0));
+        CHECK.is("29: their sizes by two", 6, x.lifts(0, 0));
+    }
+
+    private static void yearsOfSixty() {
+        FieldStones x = sixty();
+        CHECK.is("23: all in a year", 1, x.enough(SIXTY_CLEARED, 0));
+        CHECK.is("23: all but one", 1, x.enough(SIXTY_CLEARED - 1, 1));
+        CHECK.is("23: which takes another year", 2, x.enough(SIXTY_CLEARED - 1, 0));
+        CHECK.is("24: one is left", 1, x.left(SIXTY_CLEARED - 1, 1));
+        CHECK.is("24: none is left", 0, x.left(SIXTY_CLEARED, 1));
+        CHECK.is("26: none beyond 60", 60, x.frost(0, 16, 20, 0));
+        CHECK.is("26: so the sizes stay", 189, x.frost(0, 16, 20, 1));
+        CHECK.is("26: damage of 20 years", 20 * 378, x.frost(0, 16, 20, 2));
+        CHECK.is("27: the fewest", 60, x.span(0, 20, 16, 20, 60, 0));
+        CHECK.is("27: the most", 60, x.span(0, 20, 16, 20, 60, 1));
+        CHECK.is("27: no more than 60", 20, x.span(0, 20, 16, 20, 60, 2));
+        CHECK.is("27: more than 59", 0, x.span(0, 20, 16, 20, 59, 2));
+        Check.law(x, 0, "all*10+many");
+        CHECK.is("14: all and many", 660, x.damage(0, 0, 1));
+        int before = x.sums(1);
+        Check.work(x, "winter;");
+        CHECK.is("13: damage of sixty", 60 * 660, x.sums(1) - before);
+        Check.law(x, 0, "999");
+        Check.work(x, "winter;");
+        CHECK.is("13: the most damage of a year", 60 * 660 + 60 * 999, x.sums(1) - before);
     }
 }

@@ -7,11 +7,13 @@ public final class PastTest {
         undoneAll();
         whatUndoLeaves();
         twentyUndone();
+        refusedSteps();
         images();
         whatFieldsDoToImages();
         imagesKeepWorks();
         imagesStack();
         imagesKeepTwentyWorks();
+        imagesKeepYears();
         whatNoImageKeeps();
         status();
         counts();
@@ -108,6 +110,56 @@ public final class PastTest {
         CHECK.is("8: there is none", -1, x.undo());
     }
 
+    private static void refusedAre(String what, FieldStones x, int due) {
+        CHECK.is("9: refused " + what, due, x.told(9));
+    }
+
+    private static void refusedSteps() {
+        FieldStones x = new FieldStones();
+        refusedAre("ahead of any work", x, 0);
+        Check.work(x, "bar;wall;winter;heap;");
+        refusedAre("by the latest work", x, 3);
+        Check.field(x, "bar 31;");
+        refusedAre("behind a field's fault", x, 3);
+        Check.law(x, 0, "(");
+        Check.law(x, 1, "");
+        refusedAre("behind a law's fault", x, 3);
+        Check.law(x, 0, "1");
+        Check.law(x, 1, "0");
+        refusedAre("behind laws", x, 3);
+        Check.book(x, "0 0 61;");
+        refusedAre("behind a book's fault", x, 3);
+        Check.book(x, "0 0 60;");
+        refusedAre("behind a book", x, 3);
+        Check.work(x, "bar;bar");
+        refusedAre("behind a work's fault", x, 3);
+        CHECK.noArgument("5: too many bytes", () -> x.work(1));
+        CHECK.noArgument("3: too many bytes", () -> x.field(1));
+        refusedAre("behind exceptions", x, 3);
+        x.restore();
+        refusedAre("behind a -1 of restore", x, 3);
+        for (int i = 0; i < 4; i++) {
+            x.image();
+        }
+        refusedAre("behind images and a -1 of them", x, 3);
+        x.restore();
+        refusedAre("behind restore", x, 0);
+        Check.work(x, "bar;");
+        refusedAre("by the latest work", x, 1);
+        x.work(0);
+        refusedAre("by a work of no steps", x, 0);
+        Check.work(x, "bar;");
+        x.undo();
+        refusedAre("behind undo, whatever the work before it had", x, 0);
+        for (int i = 0; i < 20; i++) {
+            Check.work(x, "bar;bar;");
+        }
+        CHECK.is("5: -20", -20, x.work(0));
+        refusedAre("behind -20", x, 2);
+        Check.field(x, "");
+        refusedAre("behind a field", x, 0);
+    }
+
     private static void images() {
         FieldStones x = worked();
         CHECK.is("34: there is none", -1, x.restore());
@@ -196,6 +248,33 @@ public final class PastTest {
         for (int i = 19; i >= 0; i--) {
             full.undo();
             CHECK.is("8: the year", i, full.told(7));
+        }
+    }
+
+    /** Number 0 comes in the year 2; undone and done anew by another law it comes in the year 1, elsewhere. */
+    private static void imagesKeepYears() {
+        FieldStones x = Check.field("field 2 1;");
+        Check.law(x, 1, "(year-1)*x");
+        Check.work(x, "winter;winter;");
+        x.image();
+        x.undo();
+        Check.law(x, 1, "1-x");
+        Check.work(x, "winter;");
+        stoneIs("anew", x, 0, 0, 8, 1, 0);
+        x.restore();
+        stoneIs("restored", x, 1, 0, 9, 2, 0);
+        Check.law(x, 1, "0");
+        Check.work(x, "winter;lift 1 0;to 1 0;bar;heap;");
+        stoneIs("in a heap", x, 1, 0, 9, 2, 3);
+        x.undo();
+        stoneIs("undone", x, 1, 0, 9, 2, 0);
+        x.undo();
+        CHECK.is("8: as at first", 0, x.told(2));
+    }
+
+    private static void stoneIs(String what, FieldStones x, int... due) {
+        for (int i = 0; i < due.length; i++) {
+            CHECK.is("10: number 0, " + what + ", what " + i, due[i], x.stone(0, i));
         }
     }
 

@@ -25,6 +25,8 @@ public final class TextEdgesTest {
         bytesOnTheTape();
         longest();
         latestFault();
+        nothingOfFieldsBefore();
+        booksBehindFaults();
         CHECK.end();
     }
 
@@ -373,5 +375,45 @@ public final class TextEdgesTest {
         CHECK.is("7: so do -1, image and restore", 0, x.fault());
         Check.law(x, 1, "1");
         CHECK.is("7: NONE by a sound text", -1, x.fault());
+    }
+
+    /** Neither a field that was, nor one with a fault, leaves anything in those that come. */
+    private static void nothingOfFieldsBefore() {
+        FieldStones x = new FieldStones();
+        for (int i = 0; i < 4; i++) {
+            CHECK.is("3: two stones", 2, Check.field(x, "field 2 1;stone 0 0 3;stone 1 0 4;soil 0 0 9;lads 1 2 3;sledge 0 2 2;"));
+            CHECK.is("3: no damage yet", 0, x.sums(1));
+            CHECK.is("3: damage without a law", 6, x.damage(0, 0, 3));
+            Check.law(x, 0, "all*10+many");
+            CHECK.is("3: all that lie are two", 21, x.damage(0, 0, 3));
+            CHECK.is("3: a fault behind three stones", -8, Check.field(x, "stone 0 0 1;stone 0 0 1;stone 1 0 1;bar 31;"));
+            CHECK.is("3: all stays", 21, x.damage(0, 0, 3));
+            Check.work(x, "bar;again 9[winter;];");
+            CHECK.is("13: nine years of 42", 9 * 42, x.sums(1));
+            CHECK.is("3: three stones", 3, Check.field(x, "stone 0 0 1;stone 0 0 1;stone 5 3 1;"));
+            CHECK.is("3: no damage yet", 0, x.sums(1));
+            CHECK.is("3: no soil won", 0, x.sums(2));
+            CHECK.is("3: the soil is 5 again", 5, x.cell(0, 0, 0));
+            CHECK.is("3: lads, sledge and bar are as without a clause", 2 * 6 + 1, x.clear(2));
+            Check.law(x, 0, "all*10+many");
+            CHECK.is("3: all that lie are three", 32, x.damage(0, 0, 3));
+            Check.work(x, "winter;lift 5 3;");
+            CHECK.is("13: one year of 32, 32 and 31", 95, x.sums(1));
+        }
+    }
+
+    private static void booksBehindFaults() {
+        FieldStones x = Check.field("stone 0 0 1;stone 5 0 2;");
+        Check.book(x, "0 0 1;");
+        CHECK.is("25: the second size fits", 2, x.fits());
+        CHECK.is("6: a fault behind three lines", -9, Check.book(x, "1 0 1;2 0 2;3 0 3;x"));
+        CHECK.is("6: one line stays", 1, x.told(8));
+        CHECK.is("6: it is the same", 2, x.fits());
+        CHECK.is("6: two lines", 2, Check.book(x, "0 0 1;5 0 1;"));
+        CHECK.is("6: a fault in the first line", -8, Check.book(x, "3 0 61;"));
+        CHECK.is("6: two lines stay", 2, x.told(8));
+        CHECK.is("6: they are the same", 1, x.fits());
+        CHECK.is("6: a fault in the third line", -8, Check.book(x, "5 3 0;4 3 0;5 3 0;"));
+        CHECK.is("6: they are the same yet", 1, x.fits());
     }
 }

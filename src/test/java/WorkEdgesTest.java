@@ -301,6 +301,7 @@ public final class WorkEdgesTest {
     private static void threeHundredWithAgains() {
         ends("an again as the 300th", BEGUN_281 + "bar;".repeat(18) + "again 1[winter;];", 0, 298);
         ends("an again as the 299th", BEGUN_281 + "bar;".repeat(17) + "again 2[winter;];", 1, 297);
+        ends("an again as the 301st", BEGUN_281 + "bar;".repeat(19) + "again 1[winter;];winter;", 0, 299);
         ends("an again of no times is begun, too", BEGUN_281 + "bar;".repeat(17) + "again 0[];winter;winter;", 1, 297);
         ends("an empty again is begun once", BEGUN_281 + "bar;".repeat(17) + "again 20[];winter;winter;", 1, 297);
         ends("each time it is come to", "again 20[again 0[];" + "bar;".repeat(13) + "];" + "bar;".repeat(18)
